@@ -60,8 +60,8 @@ public final class TermStrategies {
     private static final int WAY_OF_R = PEAK + MOST_NODES;
     private static final int WAY_OF_Q = WAY_OF_R + MOST_NODES;
     private static final int ARENA = WAY_OF_Q + MOST_NODES;
-    // Each strategy that is begun in a run writes one term at most.
-    private static final int ALL_CELLS = ARENA + MOST_BEGUN * MOST_NODES;
+    // A run keeps no more terms that it wrote than it has rewritten, and writes one at a time.
+    private static final int ALL_CELLS = ARENA + (MOST_REWRITINGS + 1) * MOST_NODES;
 
     private final State state = new State(ALL_CELLS);
     private final State taken = new State(KEPT);
@@ -1438,14 +1438,15 @@ public final class TermStrategies {
      * one may stand on hundreds of others, which is more than calls within calls should.
      */
     private static final class Runner {
-        // What a frame waits for.
-        private static final int FRESH = 0;
-        private static final int WHOLE = 1;
-        private static final int FIRST = 2;
+        // What the latest result is to a frame.
+        private static final int FRESH = 0; // nothing: it has only been begun
+        private static final int WHOLE = 1; // what s made of the whole
+        private static final int FIRST = 2; // what became of the first argument
         private static final int SECOND = 3;
-        private static final int LAST = 4;
-        // A frame is looked at once when it is begun and once for each one that is begun by it.
-        private static final int MOST_STEPS = 2 * MOST_BEGUN + 2;
+        private static final int WALKED = 4; // the whole with what became of its arguments
+        private static final int LAST = 5; // what the frame itself makes
+        // For each strategy that is begun: its start, one walk over arguments, the return to what began it.
+        private static final int MOST_STEPS = 3 * MOST_BEGUN;
 
         private final State state;
         private final Signs signs;
@@ -1457,6 +1458,7 @@ public final class TermStrategies {
         private final int[] stages = new int[MOST_BEGUN];
         private final int[] firsts = new int[MOST_BEGUN]; // what the first argument became; FAILED: it stays
         private final int[] marks = new int[MOST_BEGUN]; // how long the trail was ahead
+        private final int[] bases = new int[MOST_BEGUN]; // the top ahead
         private int frames = 0;
         private int begun = 0;
         private int rewritings = 0;
@@ -1497,11 +1499,14 @@ public final class TermStrategies {
                     case SECOND:
                         goOnFromSecond(f);
                         break;
+                    case WALKED:
+                        goOnFromWalk(f);
+                        break;
                     default:
                         finish(f, result);
                 }
             }
-            return ended ? ENDED : result;
+            return ended || frames > 0 ? ENDED : result;
         }
 
         /** Begins a strategy on a frame f, which then waits for it. */
@@ -1516,6 +1521,7 @@ public final class TermStrategies {
             put(stages, frames, FRESH);
             put(firsts, frames, FAILED);
             put(marks, frames, trail.size);
+            put(bases, frames, top);
             frames++;
         }
 
@@ -1528,16 +1534,27 @@ public final class TermStrategies {
             return true;
         }
 
-        private void askWhole(int f, int stage, int w, int place) {
+        /** Lets a frame go on with a term: of all that it has written since, this alone stays, moved down. */
+        private void goOnWith(int f, int place) {
+            top = get(bases, f);
             put(wholes, f, place);
-            ask(f, stage, w, place, getLong(paths, f));
+            if (place >= top) {
+                put(wholes, f, top);
+                top = signs.append(place, top);
+            }
+        }
+
+        private void askWhole(int f, int stage, int w, int place) {
+            goOnWith(f, place);
+            ask(f, stage, w, get(wholes, f), getLong(paths, f));
         }
 
         private void finish(int f, int made) {
             if (made == FAILED) {
                 trail.cut(get(marks, f));
             }
-            result = made;
+            goOnWith(f, made);
+            result = get(wholes, f);
             frames = f;
         }
 
@@ -1604,7 +1621,7 @@ public final class TermStrategies {
                     if (failed) {
                         finish(f, FAILED);
                     } else {
-                        put(wholes, f, result);
+                        goOnWith(f, result);
                         walk(f);
                     }
                     break;
@@ -1619,7 +1636,7 @@ public final class TermStrategies {
                     if (failed) {
                         finish(f, place);
                     } else if (countBegun()) {
-                        put(wholes, f, result);
+                        goOnWith(f, result);
                         walk(f);
                     }
                     break;
@@ -1639,11 +1656,14 @@ public final class TermStrategies {
             int place = get(wholes, f);
             if (arity(signs.at(place)) > 0) {
                 ask(f, FIRST, walkerOf(f), place + 1, 3 * getLong(paths, f) + 1);
-            } else if (mayPassOver(f)) {
-                finish(f, FAILED);
             } else {
-                close(f, place);
+                endWalk(f, mayPassOver(f) ? FAILED : place);
             }
+        }
+
+        private void endWalk(int f, int made) {
+            put(stages, f, WALKED);
+            result = made;
         }
 
         /** The strategy that the arguments are given to. */
@@ -1685,13 +1705,17 @@ public final class TermStrategies {
         /** Makes a whole of what the arguments became; where that is FAILED, the argument stays. */
         private void join(int f, int first, int second) {
             if (first == FAILED && second == FAILED) {
-                finish(f, FAILED);
+                endWalk(f, FAILED);
                 return;
             }
             int place = get(wholes, f);
             boolean hasTwo = arity(signs.at(place)) == 2;
             int one = first == FAILED ? place + 1 : first;
             int two = second == FAILED ? signs.end(place + 1) : second;
+            if (one == place + 1 && (!hasTwo || two == signs.end(place + 1))) {
+                endWalk(f, place);
+                return;
+            }
             if (1 + signs.sizeAt(one) + (hasTwo ? signs.sizeAt(two) : 0) > MOST_NODES) {
                 ended = true;
                 return;
@@ -1702,18 +1726,17 @@ public final class TermStrategies {
             if (hasTwo) {
                 top = signs.append(two, top);
             }
-            close(f, made);
+            endWalk(f, made);
         }
 
-        /** Goes on when the arguments have been walked over. */
-        private void close(int f, int made) {
+        private void goOnFromWalk(int f) {
             int w = get(strategies, f);
             if (state.kindOf(w) == UP) {
-                askWhole(f, LAST, state.firstOf(w), made);
+                askWhole(f, LAST, state.firstOf(w), result);
             } else if (state.kindOf(w) == INNERMOST) {
-                askWhole(f, WHOLE, state.firstOf(w), made);
+                askWhole(f, WHOLE, state.firstOf(w), result);
             } else {
-                finish(f, made);
+                finish(f, result);
             }
         }
     }

@@ -1519,7 +1519,6 @@ public final class TermStrategies {
             put(wholes, frames, place);
             putLong(paths, frames, way);
             put(stages, frames, FRESH);
-            put(firsts, frames, FAILED);
             put(marks, frames, trail.size);
             put(bases, frames, top);
             frames++;

@@ -39,6 +39,8 @@ public final class BesideTest {
         unified(due, "i(z,y)", "w", "i(u,v)");
         unified(due, "u", "i(z,j(y,z))", "i(u,j(v,u))");
         unified(due, "u", "e(u)", "e(u)");
+        unified(due, "e(u)", "u", "e(u)");
+        unified(due, "j(w,e(u))", "w", "j(u,e(v))");
         unified(due, "i(u,a)", "i(b,u)", "i(b,a)");
         unified(due, "i(u,u)", "i(v,e(w))", "i(e(u),e(u))");
         unified(due, "i(u,i(v,w))", "i(x,i(y,z))", "i(u,i(v,w))");
@@ -67,6 +69,11 @@ public final class BesideTest {
         unified(due, "e(a)", "a", "");
         unified(due, "i(u,u)", "i(v,e(v))", "");
         unified(due, "i(u,e(u))", "i(v,v)", "");
+        unified(due, "i(u,u)", "i(v,j(v,a))", "");
+        unified(due, "i(u,u)", "i(v,j(a,v))", "");
+        unified(due, "i(u,j(a,u))", "i(v,v)", "");
+        unified(due, "i(i(u,v),i(w,a))", "i(i(x,j(x,b)),i(y,y))", "i(i(u,j(u,b)),i(a,a))");
+        unified(due, "i(i(u,v),i(w,u))", "i(i(x,j(b,x)),i(y,j(b,j(b,y))))", "i(i(j(b,j(b,u)),j(b,j(b,j(b,u)))),i(u,j(b,j(b,u))))");
         unified(due, "i(i(u,v),e(u))", "i(i(e(x),x),v)", "i(i(e(u),u),e(e(u)))");
         unified(due, "i(i(u,v),i(u,v))", "i(i(x,e(x)),i(e(y),y))", "");
         unified(due, "k(k(u,v),w)", "k(k(e(x),e(y)),i(x,y))", "k(k(e(u),e(v)),i(u,v))");
@@ -310,8 +317,10 @@ public final class BesideTest {
                 for (int r = 2; r < rules; r++) {
                     begun.rule("c", "d");
                 }
-                begun.is("meets with " + rules + " rules and " + nodes + " nodes", begun.it.meets(0, 1, 0),
-                    nodes * 2 * rules <= 600 ? 1 : 2);
+                for (int again = 0; again < 2; again++) {
+                    begun.is("meets with " + rules + " rules and " + nodes + " nodes", begun.it.meets(0, 1, 0),
+                        nodes * 2 * rules <= 600 ? 1 : 2);
+                }
             }
         }
     }

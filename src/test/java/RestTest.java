@@ -274,6 +274,8 @@ public final class RestTest {
         due.term("a");
         int w = it.strategy(RULE, 0, 0);
         it.strategy(TRY, w, 0);
+        it.strategy(THEN, 1, 0);
+        it.strategy(6, 2, 0);
         it.commute('j', true);
         it.seed(77);
         it.show(0, 1);
@@ -287,15 +289,20 @@ public final class RestTest {
         it.commute('l', true);
         it.seed(78);
         it.strategy(RULE, 1, 0);
-        it.strategy(THEN, 1, 2);
-        it.show(1, 2);
-        it.show(2, 3);
+        it.strategy(THEN, 1, 4);
+        it.show(1, 4);
+        it.show(7, 5);
         it.show(3, 0);
-        it.show(0, -1);
+        it.show(0, 5);
+        it.show(5, 3);
         due.lay(4, "a");
-        due.term("a");
-        due.is("run(3, 1)", it.run(3, 1), 2);
-        due.term("aa");
+        it.row(6, 0, 1);
+        it.set(6, 0, 'a');
+        due.is("term(6)", it.term(6), 1);
+        due.is("run(5, 1)", it.run(5, 1), 2);
+        it.row(6, 0, 2);
+        it.set(6, 0, 'a');
+        due.is("term(6)", it.term(6), -6);
         due.is("restore()", it.restore(), 2);
 
         due.is("status(0)", it.status(0), 2);
@@ -303,13 +310,19 @@ public final class RestTest {
         due.reads("term 1", 1, "a");
         due.is("status(1)", it.status(1), 1);
         due.is("ruleOf(1, false, 0)", it.ruleOf(1, false, 0), -1);
-        due.is("status(2)", it.status(2), 2);
-        due.is("strategyOf(2, 0)", it.strategyOf(2, 0), -5);
-        due.is("strategyOf(1, 0)", it.strategyOf(1, 0), TRY);
+        due.is("ruleOf(0, true, 0)", it.ruleOf(0, true, 0), 'b');
+        due.is("status(2)", it.status(2), 4);
+        int[][] strategies = {{RULE, 0, -1}, {TRY, 0, -1}, {THEN, 1, 0}, {6, 2, -1}, {-5, -5, -5}};
+        for (int w2 = 0; w2 < 5; w2++) {
+            for (int what = 0; what < 3; what++) {
+                due.is("strategyOf(" + w2 + ", " + what + ")", it.strategyOf(w2, what), strategies[w2][what]);
+            }
+        }
+        due.is("says(5, 4)", it.says(5, 4), 5);
         due.is("status(3)", it.status(3), 2);
         due.is("status(5)", it.status(5), 77);
-        int[] held = {-1, -1, -1, 0, 100};
-        for (int s = 0; s < 5; s++) {
+        int[] held = {-1, -1, -1, 0, 100, 3, 100, -1};
+        for (int s = 0; s < 8; s++) {
             due.is("holds(" + s + ")", it.holds(s), held[s]);
         }
         due.is("element(4, 0)", it.element(4, 0), 'a');
@@ -317,11 +330,11 @@ public final class RestTest {
         due.is("status(6)", it.status(6), 2);
         due.is("trace(1)", it.trace(1), 1);
         due.is("fault()", it.fault(), 1);
-        due.refused(1, 0, 0, 0, 1, 2, 0);
+        due.refused(1, 0, 0, 0, 3, 2, 0);
 
         // The image is still there, and what is made anew is another thing than what was.
         it.strategy(KEEP, 0, 0);
-        it.show(1, 2);
+        it.show(1, 4);
         due.rule("b", "d");
         due.is("ruleOf(1, true, 0)", it.ruleOf(1, true, 0), 'd');
         it.drop();

@@ -48,6 +48,9 @@ public final class RowsTest {
         due.is("set(7, 159, 5)", it.set(7, 159, 5), 1);
         due.is("row(7, 2, 160)", it.row(7, 2, 160), 1);
         due.is("element(7, 159)", it.element(7, 159), 0);
+        due.is("set(7, 0, 5)", it.set(7, 0, 5), 1);
+        due.is("row(7, 2, 160)", it.row(7, 2, 160), 1);
+        due.is("element(7, 0)", it.element(7, 0), 0);
     }
 
     private static void set() {
@@ -88,6 +91,10 @@ public final class RowsTest {
         row(due, 0, 1, 1, 2, 3, 4);
         due.is("copy(0, 0, 1, 0, 4)", it.copy(0, 0, 1, 0, 4), 1);
         row(due, 0, 1, 2, 3, 4, 4);
+        due.is("copy(0, 0, 2, 0, 3)", it.copy(0, 0, 2, 0, 3), 1);
+        row(due, 0, 3, 4, 4, 4, 4);
+        due.is("copy(0, 0, 0, 2, 2)", it.copy(0, 0, 0, 2, 2), 1);
+        row(due, 0, 3, 4, 3, 4, 4);
         due.is("copy(0, 1, 5, 3, 0)", it.copy(0, 1, 5, 3, 0), 1);
         due.is("copy(0, 1, 6, 0, 0)", it.copy(0, 1, 6, 0, 0), -5);
         due.is("copy(0, 1, 0, 0, 4)", it.copy(0, 1, 0, 0, 4), -5);
@@ -106,7 +113,7 @@ public final class RowsTest {
         due.is("copy(2, 4, 0, 0, 0)", it.copy(2, 4, 0, 0, 0), -2);
         due.is("copy(4, 8, 0, 0, 0)", it.copy(4, 8, 0, 0, 0), -1);
         due.is("copy(-1, 4, 0, 0, 0)", it.copy(-1, 4, 0, 0, 0), -1);
-        row(due, 0, 1, 2, 3, 4, 4);
+        row(due, 0, 3, 4, 3, 4, 4);
         row(due, 1, 2, 3, 30);
         due.refused(2, 3, 2, 1, 6, 0, 0);
     }

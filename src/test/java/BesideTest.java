@@ -198,6 +198,10 @@ public final class BesideTest {
         due.rule("e(u)", "i(u,u)");
         // Three nodes: the whole (41 in the way of q), the next (41, too), and no more: f is no e.
         due.is("overlaps(10, 11)", it.overlaps(10, 11), 0);
+        // A left of 40 nodes: nothing is looked at behind its last one.
+        due.it = new TermStrategies();
+        due.rule(Due.over(39, "e", "a"), "a");
+        due.is("overlaps(0, 0), 40 nodes", due.it.overlaps(0, 0), 0);
     }
 
     private static void overlap() {

@@ -132,6 +132,22 @@ final class Edge {
         return this;
     }
 
+    /** The same call again and again, which answers one number after the other. */
+    Edge numbered(String call, int first, int last) {
+        for (int n = first; n <= last; n++) {
+            is(call, n);
+        }
+        return this;
+    }
+
+    /** Strategies 1 to n, each of them THEN of the one before it and that again: they begin 3, 7, 15, .. in all. */
+    Edge doubled(int n) {
+        for (int w = 1; w <= n; w++) {
+            is("strategy(3, " + (w - 1) + ", " + (w - 1) + ")", w);
+        }
+        return this;
+    }
+
     /** A call that is refused: it is counted once, and all else is as it was. */
     Edge refuses(String call, int want) {
         leaves(call, want < -10 ? want + 10 : want);
@@ -238,9 +254,10 @@ final class Edge {
 
     /**
      * An object that holds something of everything: terms 0 e(u), 1 u, 2 i(a,e(b)), 3 a, 4 j(v,w), 5 b, 6 i(a,b); rules
-     * 0 e(u) to u, 1 a to b; strategies 0 RULE 0, 1 KEEP, 2 FAIL, 3 THEN 0 1, 4 ELSE 2 1, 5 ONCE 0, 6 REPEAT 1 (it ends);
-     * shelves 0 e(b) in bytes, 1 four longs, 2 strategy 5, 3 shorts 2 2 3 3, 4 e(b without its end, 5 NOTHING, 6 three
-     * ints, 7 a row; i commutes, the seed is 5, the fault 3, the trace rule 0 at path 2, the image has five of the terms.
+     * 0 e(u) to u, 1 a to b; strategies 0 RULE 0, 1 KEEP, 2 FAIL, 3 THEN 0 1, 4 ELSE 2 1, 5 ONCE 0, 6 REPEAT 1, which
+     * ends; shelves 0 e(b) in bytes, 1 four longs, 2 strategy 5, 3 shorts 2 2 3 3, 4 e(b without its end, 5 NOTHING,
+     * 6 three ints, 7 a row; i commutes, the seed is 5, the fault 3, the trace rule 0 at path 2, the image has five of
+     * the terms.
      */
     Edge full() {
         anew().rule("e(u)", "u").rule("a", "b").terms("e(u)", "u", "i(a,e(b))", "a", "j(v,w)");
@@ -360,7 +377,8 @@ final class Edge {
     }
 
     static void end() {
-        System.out.println(sentences + " sentences: " + (wrong == 0 ? "all answers are as due" : wrong + " are not as due"));
+        System.out.println(sentences + " sentences: "
+            + (wrong == 0 ? "all answers are as due" : wrong + " answers are not as due"));
         if (wrong != 0) {
             System.exit(1);
         }

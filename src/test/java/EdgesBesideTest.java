@@ -35,6 +35,7 @@ public final class EdgesBesideTest {
         unifies(edge, "u", "a", "a");
         unifies(edge, "a", "u", "a");
         unifies(edge, "u", "e(u)", "e(u)");
+        unifies(edge, "e(u)", "u", "e(u)");
         unifies(edge, "i(u,a)", "i(b,u)", "i(b,a)");
         unifies(edge, "i(u,u)", "i(v,e(w))", "i(e(u),e(u))");
         unifies(edge, "i(u,i(v,w))", "i(w,i(v,u))", "i(u,i(v,w))");
@@ -50,6 +51,10 @@ public final class EdgesBesideTest {
         edge.refuses("unify(4, 5)", -6).refuses("unify(5, 4)", -6).refuses("unify(5, 6)", -6);
         edge.is("unify(4, 9)", 11).is("unify(4, 8)", 12).reads(12, "i(u,u)").is("unify(10, 5)", 13)
             .reads(13, "i(u,e(u))");
+        edge.anew().terms("i(u,u)", "i(v,j(v,a))", "i(v,j(a,v))", "i(v,j(a,e(v)))", "i(j(a,b),j(a,b))", "i(v,j(a,w))");
+        edge.refuses("unify(0, 1)", -6).refuses("unify(0, 2)", -6).refuses("unify(0, 3)", -6)
+            .refuses("unify(2, 0)", -6);
+        edge.is("unify(0, 4)", 6).is("unify(0, 5)", 7).reads(7, "i(j(a,u),j(a,u))");
         // Through others, and far above 40 nodes: it is NONE all the same.
         edge.anew().terms("k(k(u,v),k(v,u))", "k(k(e(x),x),k(y,y))", "k(k(u,v),w)", "k(k(e(x),x),y)");
         edge.refuses("unify(0, 1)", -6).is("unify(2, 3)", 4).reads(4, "k(k(e(u),u),v)");
@@ -213,6 +218,10 @@ public final class EdgesBesideTest {
         edge.keeps("same(0, 4)", 2).keeps("same(0, 0)", 0).keeps("same(5, 6)", 1).keeps("same(5, 7)", 2)
             .keeps("same(7, 5)", 2);
         edge.is("commute('i', false)", 1).keeps("same(0, 1)", 2).keeps("same(0, 2)", 1).keeps("same(5, 6)", 2);
+        edge.anew().does("commute('i', true)").terms("i(e(a),b)", "i(b,e(a))", "i(b,e(b))", "e(i(a,b))", "e(i(b,a))",
+            "f(i(b,a))", "j(i(a,b),e(c))", "j(i(b,a),e(c))", "j(i(b,a),e(d))");
+        edge.keeps("same(0, 1)", 1).keeps("same(0, 2)", 2).keeps("same(3, 4)", 1).keeps("same(3, 5)", 2);
+        edge.keeps("same(6, 7)", 1).keeps("same(6, 8)", 2);
         // More than six that commute, which counts for patterns alone; 39 nodes of each.
         edge.anew().does("commute('i', true)")
             .terms("i(a,".repeat(19) + "b" + ")".repeat(19), "i(".repeat(19) + "b" + ",a)".repeat(19),

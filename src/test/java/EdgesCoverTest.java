@@ -9,7 +9,8 @@ import java.util.regex.Pattern;
 /** No sentence of the document, from its section "Terms" on, is without a test that quotes it. */
 public final class EdgesCoverTest {
     /** What names no edge: heads, and what only leads to what is quoted. */
-    private static final List<String> LEFT_OUT = List.of("## Terms ==== 1. TERMS AND RULES", "``` ==== 2. STRATEGIES ```text",
+    private static final List<String> LEFT_OUT = List.of("## Terms ==== 1. TERMS AND RULES",
+        "``` ==== 2. STRATEGIES ```text",
         "``` ==== 3. RULES BESIDE RULES ```text", "``` REFUSALS (", "Details.", ", and",
         "A TERM is a CONSTANT, a VARIABLE, or an OPERATOR with its arguments, also TERMS;",
         "```text A TERM is read from a ROW of letters:", "A STRATEGY makes of a TERM another one, or FAILS:",

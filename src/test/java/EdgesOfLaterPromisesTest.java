@@ -69,9 +69,7 @@ public final class EdgesOfLaterPromisesTest {
         edge.refuses("run(7, 0)", -1).refuses("run(-1, 0)", -1).refuses("run(0, 7)", -1).refuses("run(0, -1)", -1);
         edge.refuses("run(0, 2)", -6).refuses("run(2, 0)", -6).refuses("run(6, 0)", -7);
         edge.is("run(0, 0)", 7).reads(7, "u").reads(0, "e(u)").is("run(1, 2)", 8).reads(8, "i(a,e(b))");
-        for (int t = 9; t < 24; t++) {
-            edge.is("run(1, 3)", t);
-        }
+        edge.numbered("run(1, 3)", 9, 23);
         edge.refuses("run(1, 3)", -7).refuses("run(6, 3)", -7).refuses("run(2, 3)", -6).refuses("run(7, 3)", -1);
         edge.is("drop()", 23).is("run(1, 3)", 23).is("status(16)", 4).is("status(17)", 3);
     }
@@ -93,9 +91,7 @@ public final class EdgesOfLaterPromisesTest {
             .keeps("trial(8, 0, 2)", 0);
         edge.keeps("trial(8, 0, 1)", 0);
         // Without room for a term it is told all the same.
-        for (int t = 7; t < 24; t++) {
-            edge.is("replay(3, 0)", t);
-        }
+        edge.numbered("replay(3, 0)", 7, 23);
         edge.keeps("trial(0, 0, 0)", 0).keeps("trial(0, 0, 1)", 1).keeps("trial(0, 0, 2)", 1);
         edge.anew().rule("h(u)", "f(j(u,u))").terms("h(" + Edge.over(18, "e", "a") + ")").is("strategy(0, 0, 0)", 0);
         edge.keeps("trial(0, 0, 1)", 40);
@@ -130,12 +126,15 @@ public final class EdgesOfLaterPromisesTest {
         // One doesn't fit; there is no such node.
         edge.refuses("replay(6, 1)", -6).refuses("replay(3, 1)", -6).refuses("replay(0, 1)", -6);
         edge.is("replay(2, 1)", 7).reads(7, "i(a,b)").is("replay(2, 0)", 8).reads(8, "i(a,e(b))").is("replay(3, 0)", 9);
-        for (int t = 10; t < 24; t++) {
-            edge.is("replay(3, 0)", t);
-        }
+        edge.numbered("replay(3, 0)", 10, 23);
         edge.refuses("replay(3, 0)", -7).refuses("replay(2, 1)", -7).refuses("replay(3, 1)", -6)
             .refuses("replay(3, 2)", -5);
         edge.refuses("replay(24, 2)", -1);
+        // There is no such node, whatever was made ahead of that.
+        edge.anew().rule("a", "b").terms("i(b,a)", "e(a)", "a", "i(a,b)").is("strategy(0, 0, 0)", 0);
+        edge.is("strategy(11, 0, 0)", 1).is("run(1, 0)", 4).is("tracePath(0)", 2).terms(Edge.over(39, "e", "a"));
+        edge.refuses("replay(1, 1)", -6).refuses("replay(2, 1)", -6).refuses("replay(3, 1)", -6)
+            .refuses("replay(5, 1)", -6);
         // There is no such rule any more; then there is another one of its number.
         edge.anew().rule("a", "b").terms("a").is("strategy(0, 0, 0)", 0).is("image()", 1).rule("b", "c");
         edge.is("strategy(0, 1, 0)", 1).is("strategy(3, 0, 1)", 2).is("run(2, 0)", 1).is("restore()", 1)
@@ -175,9 +174,7 @@ public final class EdgesOfLaterPromisesTest {
         // The same variable in both is two of them.
         edge.is("unify(1, 0)", 12).reads(12, "e(u)").is("unify(0, 10)", 13).reads(13, "e(e(u))").is("unify(0, 0)", 14);
         edge.reads(14, "e(u)");
-        for (int t = 15; t < 24; t++) {
-            edge.is("unify(0, 0)", t);
-        }
+        edge.numbered("unify(0, 0)", 15, 23);
         edge.refuses("unify(0, 0)", -7).refuses("unify(0, 3)", -6).refuses("unify(8, 3)", -5)
             .refuses("unify(24, 8)", -1);
     }
@@ -231,9 +228,7 @@ public final class EdgesOfLaterPromisesTest {
         edge.refuses("overlap(3, 0, 0, -1)", -5).refuses("overlap(0, 0, 0, 0)", -5).refuses("overlap(3, 0, 2, 3)", -5);
         edge.is("overlap(3, 0, 0, 0)", 7).reads(7, "j(e(u),e(v))").is("overlap(3, 0, 0, 1)", 8).reads(8, "u");
         edge.is("overlap(3, 0, 0, 2)", 9).reads(9, "j(u,e(v))").is("overlap(3, 0, 1, 2)", 10).reads(10, "j(e(u),v)");
-        for (int t = 11; t < 24; t++) {
-            edge.is("overlap(2, 1, 0, 2)", t);
-        }
+        edge.numbered("overlap(2, 1, 0, 2)", 11, 23);
         edge.reads(23, "e(b)").refuses("overlap(2, 1, 0, 2)", -7).refuses("overlap(2, 1, 1, 2)", -5);
         edge.refuses("overlap(2, 1, 0, 3)", -5).refuses("overlap(4, 1, 0, 0)", -1);
     }
@@ -369,9 +364,7 @@ public final class EdgesOfLaterPromisesTest {
         edge.anew().is("image()", 0).terms("a").rule("a", "b").is("restore()", 0).is("status(1)", 0)
             .refuses("drop()", -6);
         edge.lay(0, "b");
-        for (int t = 0; t < 24; t++) {
-            edge.is("term(0)", t);
-        }
+        edge.numbered("term(0)", 0, 23);
         edge.is("image()", 24).is("drop()", 23).is("drop()", 22).is("restore()", 24).is("node(23, 0)", 'b')
             .is("term(0)", -7);
     }

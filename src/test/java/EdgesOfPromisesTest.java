@@ -92,7 +92,8 @@ public final class EdgesOfPromisesTest {
 
     private static void copyAsAhead() {
         Edge edge = Edge.of("(as they were ahead)");
-        int[][] moves = {{0, 1, 4}, {1, 0, 4}, {0, 2, 3}, {2, 0, 3}, {0, 4, 1}, {1, 1, 3}, {0, 0, 5}};
+        int[][] moves = {{0, 1, 4}, {1, 0, 4}, {0, 1, 2}, {2, 1, 2}, {0, 2, 1}, {2, 0, 3}, {0, 4, 1}, {1, 1, 3}, {0, 0,
+            5}};
         for (int[] move : moves) {
             edge.anew().numbers(3, 10, 11, 12, 13, 14);
             edge.is("copy(3, 3, " + move[0] + ", " + move[1] + ", " + move[2] + ")", 1);
@@ -142,9 +143,7 @@ public final class EdgesOfPromisesTest {
         for (int s = 0; s < 8; s++) {
             edge.keeps("holds(" + s + ")", held[s]);
         }
-        for (int w = 7; w < 24; w++) {
-            edge.is("strategy(1, 0, 0)", w);
-        }
+        edge.numbered("strategy(1, 0, 0)", 7, 23);
         edge.is("show(0, 23)", 1).keeps("holds(0)", 23).is("show(0, 0)", 1).keeps("holds(0)", 0);
     }
 
@@ -171,9 +170,7 @@ public final class EdgesOfPromisesTest {
         }
         edge.is("strategy(3, 14, 13)", 15).is("show(3, 15)", 1).is("says(3, 3)", 1413);
         // The strategies of one object end at 23.
-        for (int w = 16; w < 24; w++) {
-            edge.is("strategy(1, 0, 0)", w);
-        }
+        edge.numbered("strategy(1, 0, 0)", 16, 23);
         edge.anew().is("strategy(1, 0, 0)", 0);
         for (int w = 1; w < 24; w++) {
             edge.is("strategy(4, " + (w - 1) + ", " + (w - 1) + ")", w);
@@ -194,9 +191,7 @@ public final class EdgesOfPromisesTest {
         Edge edge = Edge.of("how many STRATEGIES it is of, itself and all it is over (each as often as it comes;"
             + " more than 1,000 is told as 1,000). -1 SHELF, as; -2 also one that isn't such; -3.");
         edge.is("strategy(1, 0, 0)", 0);
-        for (int w = 1; w < 9; w++) {
-            edge.is("strategy(3, " + (w - 1) + ", " + (w - 1) + ")", w);
-        }
+        edge.doubled(8);
         edge.is("strategy(3, 8, 7)", 9).is("strategy(4, 9, 6)", 10).is("strategy(3, 10, 5)", 11)
             .is("strategy(3, 11, 4)", 12);
         edge.is("strategy(4, 12, 1)", 13).is("strategy(3, 13, 0)", 14).is("strategy(6, 14, 0)", 15)
@@ -215,9 +210,7 @@ public final class EdgesOfPromisesTest {
         edge.refuses("term(-1)", -1).refuses("term(8)", -1).refuses("term(2)", -2).refuses("term(5)", -3);
         edge.is("term(4)", -6).is("status(16)", 2).is("row(1, 3, 0)", 1).is("term(1)", -6).is("term(0)", 7)
             .reads(7, "e(b)");
-        for (int t = 8; t < 24; t++) {
-            edge.is("term(0)", t);
-        }
+        edge.numbered("term(0)", 8, 23);
         edge.is("term(4)", -6).is("term(0)", -7).is("status(17)", 1).refuses("term(5)", -3).refuses("term(2)", -2);
         edge.refuses("term(8)", -1).is("status(0)", 24).is("element(0, 0)", 'e').is("drop()", 23).is("term(0)", 23);
         for (int sort = 0; sort < 4; sort++) {
@@ -236,9 +229,7 @@ public final class EdgesOfPromisesTest {
         edge.is("term(2)", -6).keeps("fault()", 1).is("term(1)", 0).keeps("fault()", -1).is("term(0)", -6)
             .keeps("fault()", 2);
         edge.is("replay(0, 0)", 1).is("image()", 2).is("drop()", 1).is("restore()", 2).keeps("fault()", 2);
-        for (int t = 2; t < 24; t++) {
-            edge.is("replay(0, 0)", t);
-        }
+        edge.numbered("replay(0, 0)", 2, 23);
         edge.is("fault()", 2).is("term(1)", -7).is("fault()", -1).is("term(2)", -6).is("fault()", 1);
     }
 
@@ -316,9 +307,7 @@ public final class EdgesOfPromisesTest {
         edge.refuses("rule(7, 0)", -1).refuses("rule(1, 7)", -1).refuses("rule(-1, 4)", -1).refuses("rule(1, -1)", -1);
         edge.refuses("rule(1, 1)", -6).refuses("rule(1, 3)", -6).refuses("rule(0, 4)", -6).refuses("rule(3, 1)", -6);
         edge.is("rule(0, 3)", 2).is("ruleOf(2, true, 0)", 'a').is("rule(4, 4)", 3);
-        for (int r = 4; r < 12; r++) {
-            edge.is("rule(6, 3)", r);
-        }
+        edge.numbered("rule(6, 3)", 4, 11);
         edge.refuses("rule(7, 0)", -1).refuses("rule(1, 1)", -6).refuses("rule(0, 4)", -6).refuses("rule(0, 1)", -7);
     }
 
@@ -360,6 +349,10 @@ public final class EdgesOfPromisesTest {
         edge.anew().rule("e(u)", "u").terms(Edge.over(39, "e", "a")).keeps("fits(0, 0, -1)", 39)
             .keeps("fits(0, 0, 38)", 38);
         edge.keeps("fits(0, 0, 39)", -1).rule("a", "b").keeps("fits(1, 0, 0)", 39);
+        // What stood where a shorter term stands now is no node of it.
+        edge.anew().rule("a", "b").terms("i(a,a)").does("drop()").terms("a").keeps("fits(0, 0, -1)", 1);
+        edge.keeps("fits(0, 0, 1)", -1).keeps("redexes(0)", 1).does("drop()").terms("i(b,a)").does("drop()").terms("b");
+        edge.keeps("fits(0, 0, -1)", 0).keeps("fits(0, 0, 0)", -1).keeps("redexes(0)", 0).keeps("termOf(0, 3)", 1);
     }
 
     private static void redexes() {
@@ -379,9 +372,7 @@ public final class EdgesOfPromisesTest {
         edge.refuses("rewrite(1, 3, 1)", -5).refuses("rewrite(0, 2, MOST)", -5).refuses("rewrite(0, 2, 3)", -6);
         edge.is("rewrite(0, 2, 2)", 7).reads(7, "i(a,b)").is("rewrite(1, 2, 1)", 8).reads(8, "i(b,e(b))")
             .reads(2, "i(a,e(b))");
-        for (int t = 9; t < 24; t++) {
-            edge.is("rewrite(1, 2, 1)", t);
-        }
+        edge.numbered("rewrite(1, 2, 1)", 9, 23);
         edge.refuses("rewrite(1, 2, 4)", -5).refuses("rewrite(1, 2, 0)", -6).refuses("rewrite(1, 2, 1)", -7);
         edge.anew().rule("h(u)", "j(u,u)")
             .terms("f(h(" + Edge.over(18, "f", "a") + "))", "h(" + Edge.over(19, "f", "a") + ")");

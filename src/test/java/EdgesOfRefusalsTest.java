@@ -149,26 +149,18 @@ public final class EdgesOfRefusalsTest {
         Edge edge = Edge.of("-7 ROOM: more than may be.").full();
         edge.refuses("row(0, 0, 161)", -7).refuses("row(0, 0, MOST)", -7).is("row(0, 0, 160)", 1)
             .refuses("run(6, 0)", -7);
-        for (int r = 2; r < 12; r++) {
-            edge.is("rule(0, 1)", r);
-        }
+        edge.numbered("rule(0, 1)", 2, 11);
         edge.refuses("rule(0, 1)", -7);
-        for (int w = 7; w < 24; w++) {
-            edge.is("strategy(1, 0, 0)", w);
-        }
+        edge.numbered("strategy(1, 0, 0)", 7, 23);
         edge.refuses("strategy(1, 0, 0)", -7);
-        for (int t = 7; t < 24; t++) {
-            edge.is("replay(3, 0)", t);
-        }
+        edge.numbered("replay(3, 0)", 7, 23);
         edge.refuses("replay(3, 0)", -7);
     }
 
     private static void rightRows() {
         Edge edge = Edge.of("Behind a right ROW there is no FAULT; a FAULT is looked at ahead of the room.");
         edge.lay(0, "a").lay(1, "e(").is("term(1)", -6).is("fault()", 2).is("term(0)", 0).is("fault()", -1);
-        for (int t = 1; t < 24; t++) {
-            edge.is("term(0)", t);
-        }
+        edge.numbered("term(0)", 1, 23);
         edge.is("term(1)", -6).is("fault()", 2).is("status(16)", 2).is("status(17)", 0);
         edge.is("term(0)", -7).is("fault()", -1).is("status(16)", 2).is("status(17)", 1);
     }
@@ -222,9 +214,7 @@ public final class EdgesOfRefusalsTest {
     private static void whatRepeatTries() {
         Edge edge = Edge.of("Each beginning of what REPEAT tries counts.");
         edge.rule("e(u)", "u").terms("e(e(a))", "e(e(e(a)))").is("strategy(1, 0, 0)", 0);
-        for (int w = 1; w < 9; w++) {
-            edge.is("strategy(3, " + (w - 1) + ", " + (w - 1) + ")", w);
-        }
+        edge.doubled(8);
         edge.is("strategy(0, 0, 0)", 9).is("strategy(13, 9, 0)", 10).is("strategy(3, 8, 10)", 11)
             .is("strategy(3, 5, 11)", 12);
         edge.is("strategy(3, 3, 12)", 13).is("strategy(3, 1, 13)", 14);
@@ -235,9 +225,7 @@ public final class EdgesOfRefusalsTest {
         Edge edge = Edge.of("A run() without room leaves THE TRACE as it was.");
         edge.rule("a", "b").rule("b", "c").terms("e(a)", "b").is("strategy(0, 0, 0)", 0).is("strategy(6, 0, 0)", 1);
         edge.is("strategy(0, 1, 0)", 2).is("run(1, 0)", 2);
-        for (int t = 3; t < 24; t++) {
-            edge.is("replay(1, 0)", t);
-        }
+        edge.numbered("replay(1, 0)", 3, 23);
         edge.refuses("run(2, 1)", -7).is("status(6)", 1).is("trace(0)", 0).is("tracePath(0)", 1);
         edge.is("drop()", 23).is("run(2, 1)", 23).is("trace(0)", 1).is("tracePath(0)", 0);
     }

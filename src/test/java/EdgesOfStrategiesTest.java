@@ -116,7 +116,9 @@ public final class EdgesOfStrategiesTest {
             .is("strategy(5, 5, 0)", 7).is("strategy(4, 2, 7)", 8).is("strategy(9, 8, 0)", 9)
             .makes(9, "e(a)", "b", "0@1 2@0").makes(9, "i(e(a),b)", "i(b,c)", "0@4 2@1 1@2").makes(9, "d", "d", "")
             .is("strategy(4, 0, 2)", 10).is("strategy(9, 10, 0)", 11).makes(11, "e(e(a))", "b", "0@4 2@1 2@0")
-            .fails(11, "i(a,a)").fails(11, "e(b)");
+            .fails(11, "i(a,a)").fails(11, "e(b)").fails(11, "i(a,b)")
+            .is("strategy(6, 4, 0)", 12).is("strategy(9, 12, 0)", 13).makes(13, "a", "a", "")
+            .fails(13, "i(a,e(b))").fails(13, "i(e(b),a)").fails(13, "i(a,b)");
     }
 
     private static void down() {
@@ -161,9 +163,7 @@ public final class EdgesOfStrategiesTest {
     /** The rule a to a, and strategies that do it 1, 2, 4, 8, 16, 32 and 40 times. */
     private static Edge withForty(String sentence) {
         Edge edge = Edge.of(sentence).rule("a", "a").terms("a").is("strategy(0, 0, 0)", 0);
-        for (int w = 1; w < 6; w++) {
-            edge.is("strategy(3, " + (w - 1) + ", " + (w - 1) + ")", w);
-        }
+        edge.doubled(5);
         return edge.is("strategy(3, 5, 3)", 6);
     }
 
@@ -195,9 +195,7 @@ public final class EdgesOfStrategiesTest {
     private static void sixHundredBeginnings() {
         Edge edge = Edge.of("ahead of the 601st time that a STRATEGY is begun");
         edge.terms("a").is("strategy(1, 0, 0)", 0);
-        for (int w = 1; w < 9; w++) {
-            edge.is("strategy(3, " + (w - 1) + ", " + (w - 1) + ")", w);
-        }
+        edge.doubled(8);
         // 511 and 63 and 15 and 7 and three that join them: 599.
         edge.is("strategy(3, 8, 5)", 9).is("strategy(3, 9, 3)", 10).is("strategy(3, 10, 2)", 11);
         edge.is("trial(11, 0, 0)", 0).is("strategy(5, 11, 0)", 12).is("trial(12, 0, 0)", 0).is("run(12, 0)", 1);
@@ -228,9 +226,7 @@ public final class EdgesOfStrategiesTest {
     /** As many are begun ahead of a kind, of KEEP, FAIL or a rule, that 600 are begun in all; and then one more. */
     private static void begins(Edge edge, int kind, int of, int begun) {
         edge.rule("a", "b").terms("j(e(a),b)").is("strategy(1, 0, 0)", 0);
-        for (int w = 1; w < 9; w++) {
-            edge.is("strategy(3, " + (w - 1) + ", " + (w - 1) + ")", w);
-        }
+        edge.doubled(8);
         edge.is("strategy(2, 0, 0)", 9).is("strategy(0, 0, 0)", 10);
         int s = of == KEEP ? 0 : of == FAIL ? 9 : 10;
         int given = kind == RULE ? 0 : s;
@@ -259,7 +255,11 @@ public final class EdgesOfStrategiesTest {
         edge.rule("g(u)", "e(j(u,u))").rule("h(u)", "j(u,u)").terms(Edge.over(18, "f", "a"));
         edge.is("strategy(0, 0, 0)", 0).is("strategy(0, 1, 0)", 1);
         edge.terms("g(" + Edge.over(18, "f", "a") + ")", "h(" + Edge.over(19, "f", "a") + ")");
-        edge.is("trial(0, 1, 1)", 40).is("run(0, 1)", 3).is("trial(1, 2, 0)", 2).refuses("run(1, 2)", -7);
+        // It is so as often as one asks.
+        for (int k = 0; k < 100; k++) {
+            edge.is("trial(0, 1, 1)", 40);
+        }
+        edge.is("run(0, 1)", 3).is("trial(1, 2, 0)", 2).refuses("run(1, 2)", -7);
 
         String thirtyNine = Edge.over(38, "f", "a");
         edge.anew().rule("b", thirtyNine).terms("e(b)", "e(e(b))", "i(b,a)", "i(a,b)", "i(b,b)", "k(e(b),b)");

@@ -105,9 +105,7 @@ public final class EdgesOfTermsTest {
 
     private static void numbersOfTerms() {
         Edge edge = Edge.of("TERMS have numbers, from 0 on, 24 at most.").lay(0, "a");
-        for (int t = 0; t < 23; t++) {
-            edge.is("term(0)", t);
-        }
+        edge.numbered("term(0)", 0, 22);
         edge.does("rule(0, 0)", "rule(0, 0)", "strategy(0, 0, 0)").is("term(0)", 23).is("node(23, 0)", 'a');
         edge.refuses("term(0)", -7).refuses("rewrite(0, 0, 0)", -7).refuses("run(0, 0)", -7)
             .refuses("replay(0, 0)", -7);
@@ -172,9 +170,7 @@ public final class EdgesOfTermsTest {
 
     private static void numbersOfRules() {
         Edge edge = Edge.of("RULES have numbers, from 0 on, 12 at most").terms("a", "b");
-        for (int r = 0; r < 12; r++) {
-            edge.is("rule(0, 1)", r);
-        }
+        edge.numbered("rule(0, 1)", 0, 11);
         edge.is("ruleOf(11, true, 0)", 'b').refuses("rule(0, 1)", -7).refuses("ruleOf(12, true, 0)", -1)
             .is("status(1)", 12);
     }
@@ -230,6 +226,9 @@ public final class EdgesOfTermsTest {
         edge.is("bound(4, 5, 'u', 0)", 'b').is("bound(4, 5, 'v', 0)", 'c');
         // The pattern's first binds u to the term's second ahead of the pattern's second.
         edge.is("bound(6, 7, 'u', 0)", 'e').is("bound(6, 7, 'u', 1)", 'a').refuses("bound(6, 7, 'u', 2)", -5);
+        // With operators of one argument within, turned and not.
+        edge.terms("i(e(u),v)", "i(a,e(b))", "i(e(b),a)").is("bound(8, 9, 'u', 0)", 'b').is("bound(8, 9, 'v', 0)", 'a');
+        edge.is("bound(8, 10, 'u', 0)", 'b').is("bound(8, 10, 'v', 0)", 'a').refuses("bound(8, 1, 'u', 0)", -6);
         edge.is("commute('i', false)", 1).is("commute('j', true)", 0).refuses("bound(0, 1, 'u', 0)", -6);
     }
 

@@ -62,6 +62,11 @@ public final class EdgesBesideTest {
         edge.anew().terms("k(k(v," + big + "),k(w,v))", "k(k(x,y),k(" + big.replace('u', 'x') + ",x))",
             "k(k(x,y),k(" + big.replace('u', 'x') + ",e(x)))");
         edge.refuses("unify(0, 1)", -7).refuses("unify(0, 2)", -6);
+        // What is the same already stays so, however often and however large: the a and the b are come to all the same.
+        String many = "l(l(l(c,c),l(c,c)),l(l(c,c),l(c,c)))";
+        edge.anew().terms("k(a,l(u,l(u,l(u,l(u,l(u,l(u,e(" + many + "))))))))",
+            "k(b,l(x,l(x,l(x,l(x,l(x,l(l(l(y,y),l(y,y)),e(y))))))))");
+        edge.refuses("unify(0, 1)", -6);
     }
 
     private static void namesAnew() {

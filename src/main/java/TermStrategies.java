@@ -840,7 +840,7 @@ public final class TermStrategies {
 
         /** The place behind the term's last sign. */
         int end(int place) {
-            int i = Math.max(place, 0);
+            int i = place < 0 ? 0 : place;
             for (int open = 1; open > 0 && i < cells.length; i++) {
                 int sign = cells[i];
                 if (sign >= 'i' && sign <= 'l') {
